@@ -2,7 +2,8 @@
  * A valley in which sounds are heard before they are made, by as many seconds as it is far from
  * where they are heard to where they will be made. The words in capitals are the document's.
  *
- * Everything an object needs is made in its constructor; no call makes an object or an array.
+ * Everything an object needs is made in its constructor; no call makes an object or an array, as
+ * all calls of a run share one small room.
  */
 public final class EchoesFirst {
     public static final int BAD = -1, STATE = -2, FULL = -3, NONE = -9;
@@ -1077,7 +1078,6 @@ public final class EchoesFirst {
             goals = 0;
         }
 
-        /** One goal more: its bit. */
         int addGoal() {
             int bit = goals + 1;
             if (goals + bit >= GOAL_SETS) {
@@ -1093,7 +1093,7 @@ public final class EchoesFirst {
             while (place < size && at(numbers, place) < number) {
                 place++;
             }
-            if (place < size && at(numbers, place) == number) {
+            if (place < size && place < MOST_DEEDS && at(numbers, place) == number) {
                 reached[place] |= bit;
             } else if (place <= size && size < MOST_DEEDS) {
                 for (int k = size; k > place; k--) {
@@ -1106,7 +1106,7 @@ public final class EchoesFirst {
             }
         }
 
-        /** Finds the sets without one person's deeds and without one deed. */
+        /** Leaves out one person's deeds and the deed of one number: what then is lacking needed them. */
         void solve(int notPerson, int notNumber) {
             for (int wanted = 0; wanted <= goals && wanted < GOAL_SETS; wanted++) {
                 fewest[wanted] = wanted == 0 ? 0 : UNREACHED;
@@ -1121,7 +1121,7 @@ public final class EchoesFirst {
             }
         }
 
-        /** The k-th deed may be used, too; high sets first, as they build on lower ones without it. */
+        /** Goes from high sets to low, as each builds on a lower one that must not have this deed yet. */
         private void letIn(int k) {
             int reach = at(reached, k);
             for (int wanted = Math.min(goals, GOAL_SETS - 1); wanted > 0; wanted--) {
@@ -1151,7 +1151,6 @@ public final class EchoesFirst {
             return ways[seenGoals()];
         }
 
-        /** The i-th number of the first row. */
         int numberInFirst(int i) {
             long row = firstRow[seenGoals()];
             int seen = 0;

@@ -11,6 +11,8 @@ public final class KindsTest {
         back();
         backOfWhatMayBeUndone();
         imagesAreCopies();
+        imagesKeepAllOfWhatIsDone();
+        imagesKeepAllOfWhatMayBeUndone();
         count();
         Check.end();
     }
@@ -200,6 +202,54 @@ public final class KindsTest {
         Check.due("IMAGE 0 is as it was", x.back(0), 0);
         Check.due("IMAGE 1 is as kept last", x.back(1), 1);
         Check.due("done(0, 3)", x.done(0, 3), 0);
+    }
+
+    private static void imagesKeepAllOfWhatIsDone() {
+        EchoesFirst x = threePeople();
+        Check.pass(x, 11);
+        x.makes(0, 3);
+        x.makes(2, 7);
+        x.keep(0);
+        Check.due("undo()", x.undo(), 9);
+        Check.due("undo()", x.undo(), 8);
+        x.undo();
+        x.moves(2, 0);
+        x.moves(1, 0);
+        x.makes(1, 3);
+        x.moves(0, 1);
+        x.makes(0, 5);
+        Check.due("back(0)", x.back(0), 11);
+        int[][] due = {{0, 3, 11, 0}, {2, 7, 11, 1}};
+        for (int i = 0; i < 2; i++) {
+            for (int what = 0; what < 4; what++) {
+                Check.due("done(" + i + ", " + what + ")", x.done(i, what), due[i][what]);
+            }
+        }
+        Check.due("done(2, 0)", x.done(2, 0), BAD);
+    }
+
+    private static void imagesKeepAllOfWhatMayBeUndone() {
+        EchoesFirst x = Check.told("n 4;p 0 0 40 0;p 1 0 40 0;p 2 0 40 0;");
+        x.moves(0, 3);
+        x.moves(2, 1);
+        x.second();
+        x.keep(1);
+        x.undo();
+        x.undo();
+        x.undo();
+        x.second();
+        x.moves(1, 2);
+        x.moves(1, 0);
+        x.moves(1, 3);
+        Check.due("back(1)", x.back(1), 1);
+        Check.due("undo() of the second", x.undo(), 2);
+        Check.due("NOW", x.count(3), 0);
+        Check.due("undo() of the move of 2", x.undo(), 1);
+        Check.due("PLACE of 2", x.person(2, 0), 2);
+        Check.due("PLACE of 0 yet", x.person(0, 0), 3);
+        Check.due("undo() of the move of 0", x.undo(), 0);
+        Check.due("PLACE of 0", x.person(0, 0), 0);
+        Check.due("PLACE of 1", x.person(1, 0), 1);
     }
 
     private static void count() {

@@ -18,6 +18,9 @@ public final class LogTest {
         odds();
         oddsOfSharedDeeds();
         manySets();
+        deedOfNumberNaught();
+        theLeastNumberIsNotAlwaysOfASet();
+        whateverIsDone();
         Check.end();
     }
 
@@ -122,6 +125,10 @@ public final class LogTest {
         Check.due("nobody() of two", x.nobody(), 2);
         Check.log(x, 5, 1, 0, 0);
         Check.due("a STILL one makes it the first", x.nobody(), 1);
+        x.forget();
+        Check.due("nobody() of none again", x.nobody(), NONE);
+        Check.log(x, 3, 0, 0, 1);
+        Check.due("nobody() of one anew", x.nobody(), NONE);
     }
 
     private static void deedsOfNothing() {
@@ -284,6 +291,55 @@ public final class LogTest {
         Check.due("2 of 8 in least terms, lower", y.odds(0, 0, 1), 4);
         Check.due("4 of 8 in least terms, upper", y.odds(1, 1, 0), 1);
         Check.due("4 of 8 in least terms, lower", y.odds(1, 1, 1), 2);
+    }
+
+    /** Person 0, SOUND 0, second 0. */
+    private static void deedOfNumberNaught() {
+        EchoesFirst x = Check.told("n 2;f 0 0 0;p 0 0 0 0;p 0 0 2 0 1;");
+        Check.log(x, 0, 0, 0, 1);
+        Check.due("who in second 0", x.who(0), 3);
+        Check.due("somebody in second 0", x.nobody(), NONE);
+        Check.due("two ways in second 0", x.deeds(1), 2);
+        Check.due("first(0) is 0", x.first(0), 0);
+        Check.due("upper of 1/2 by number 0", x.odds(0, 0, 0), 1);
+        Check.due("lower of 1/2 by number 0", x.odds(0, 0, 1), 2);
+        Check.due("nobody must", x.deeds(2), 0);
+        x.moves(1, 1);
+        Check.due("number 0 alone", x.deeds(1), 1);
+        Check.due("person 0 must", x.deeds(2), 1);
+        Check.due("odds of 1", x.odds(0, 0, 0) * 10 + x.odds(0, 0, 1), 11);
+    }
+
+    private static void theLeastNumberIsNotAlwaysOfASet() {
+        EchoesFirst x = Check.told("n 3;f 0 1 4;p 0 0 40 0;p 1 0 40 0;p 0 0 40 0;");
+        Check.log(x, 9, 0, 0, 1);
+        Check.log(x, 12, 1, 0, 1);
+        Check.due("one deed of 1 makes both", x.deeds(0) * 10 + x.deeds(1), 11);
+        Check.due("first(0) is his", x.first(0), 10013);
+        Check.due("no first(1)", x.first(1), NOT_SO_MANY);
+        Check.due("he must", x.deeds(2), 2);
+        Check.due("who could make the first", x.who(0), 7);
+        Check.due("odds of one who could", x.odds(0, 0, 0) * 10 + x.odds(0, 0, 1), 1);
+        Check.log(x, 20, 0, 0, 1);
+        Check.due("first(0) of two", x.first(0), 21);
+        Check.due("first(1) of two", x.first(1), 10013);
+    }
+
+    /** NOW and what is DONE are nothing to whose each can be. */
+    private static void whateverIsDone() {
+        EchoesFirst x = Check.told("p 0 0 40 0;p 1 0 40 0;");
+        Check.log(x, 9, 0, 0, 1);
+        Check.pass(x, 10);
+        x.makes(0, 0);
+        Check.pass(x, 40);
+        Check.due("who(0)", x.who(0), 3);
+        Check.due("nobody()", x.nobody(), NONE);
+        Check.due("deeds(0)", x.deeds(0), 1);
+        Check.due("deeds(1)", x.deeds(1), 2);
+        Check.due("deeds(2)", x.deeds(2), 0);
+        Check.due("first(0)", x.first(0), 10);
+        Check.due("odds(0, 0, 1)", x.odds(0, 0, 1), 2);
+        Check.due("it is not DUE, though", x.now(0), 0);
     }
 
     private static void manySets() {

@@ -181,6 +181,9 @@ public final class SecondsTest {
             Check.due("done(" + i + ", 4)", x.done(i, 4), BAD);
         }
         Check.due("done(3, 0)", x.done(3, 0), BAD);
+        Check.due("done(4, 0)", x.done(4, 0), BAD);
+        Check.due("done(most, 0)", x.done(Integer.MAX_VALUE, 0), BAD);
+        Check.due("done(least, 0)", x.done(Integer.MIN_VALUE, 0), BAD);
         Check.due("done(-1, 0)", x.done(-1, 0), BAD);
         x.undo();
         Check.due("done(2, 0) when undone", x.done(2, 0), BAD);
@@ -260,6 +263,7 @@ public final class SecondsTest {
         Check.due("in 60 all is PAST", x.now(1), 15);
         x.forget();
         Check.due("PAST of none", x.now(1), 0);
+        Check.due("DUE of none", x.now(0), 0);
     }
 
     private static void lies() {

@@ -13,6 +13,8 @@ public final class ValleyTest {
         faultsOfPeople();
         endsTooEarly();
         longTexts();
+        bytesOfEarlierTexts();
+        textGoesOnAfterFault();
         faultChangesNothing();
         readAnew();
         far();
@@ -120,6 +122,12 @@ public final class ValleyTest {
         valley(" x;", -11);
         valley("nn 3;", -10);
         valley("np 3;", -10);
+        valley("na 3;", -10);
+        valley("nz 3;", -10);
+        valley("n` 3;", -11);
+        valley("n{ 3;", -11);
+        valley("an 3;", -10);
+        valley("zn 3;", -10);
         valley(";", -10);
         valley("n 3;;", -14);
         valley("3", -10);
@@ -229,6 +237,32 @@ public final class ValleyTest {
         valley("f".repeat(200), -10);
         valley("1".repeat(200), -10);
         valley("n " + "1".repeat(198), -12);
+    }
+
+    /** What was cleared or taken does not come back behind a shorter text. */
+    private static void bytesOfEarlierTexts() {
+        EchoesFirst x = new EchoesFirst();
+        String[] earlier = {"n 34;", "n 3   ;", "n 3;f 0 1 2;", "f 0 1 22222"};
+        for (String text : earlier) {
+            Check.type(x, text);
+            Check.type(x, "n 3");
+            Check.due("'n 3' behind '" + text + "'", x.valley(), -13);
+        }
+        Check.tell(x, "n 3;f 0 1 2;");
+        Check.type(x, "f");
+        Check.due("'f' behind a text that was taken", x.valley(), -11);
+        Check.type(x, "f 0 1 2;p");
+        Check.type(x, "f 0 1 2;");
+        Check.due("a whole text behind a longer one", x.valley(), 1);
+    }
+
+    private static void textGoesOnAfterFault() {
+        EchoesFirst x = new EchoesFirst();
+        Check.type(x, "n 3");
+        Check.due("valley() too early", x.valley(), -13);
+        Check.due("one byte more", x.type(';'), 4);
+        Check.due("valley() then", x.valley(), 1);
+        Check.due("PLACES then", x.count(0), 3);
     }
 
     private static void faultChangesNothing() {
