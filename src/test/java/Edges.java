@@ -89,7 +89,8 @@ final class Edges {
         StringBuilder seen = new StringBuilder();
         int people = x.count(1);
         for (int k = 0; k < 12; k++) {
-            seen.append(" undo ").append(x.undo()).append(" now ").append(x.count(3)).append(" done ").append(x.count(4));
+            seen.append(" undo ").append(x.undo()).append(" now ").append(x.count(3)).append(" done ")
+                .append(x.count(4));
             for (int p = 0; p < people; p++) {
                 seen.append(' ').append(x.person(p, 0));
             }

@@ -24,6 +24,8 @@ public final class EdgesOfKindsTest {
         backOfEachImage();
         backKeepsTheLogTheTextTheTrace();
         backOfWhatIsFull();
+        backOfOtherThingsDone();
+        backOfOtherMoves();
         imagesAreGoneWhenReadAnew();
         imagesStayBehindAFault();
         countNumbers();
@@ -31,6 +33,7 @@ public final class EdgesOfKindsTest {
         countsMost();
         traceAtFirst();
         traceOfEachKind();
+        traceOfAllKindsTogether();
         traceOfWhatIsRefused();
         traceStays();
         traceOfManyCalls();
@@ -91,6 +94,10 @@ public final class EdgesOfKindsTest {
         };
         marks("eight HEARD", eight, 0, 0, 0, -8, 0, -8, 0);
         marks("eight HEARD of another SOUND", eight, 1, 1, 1, 1, 2, 1, 1);
+        marks("one HEARD of each of two others", x -> {
+            Check.log(x, 0, 0, 2, 1);
+            Check.log(x, 0, 0, 4, 1);
+        }, 3, 3, 3, 3, 6, 3, 3);
         marks("one HEARD, two STILL", x -> {
             Check.log(x, 0, 0, 5, 0);
             Check.log(x, 0, 0, 5, 1);
@@ -239,6 +246,43 @@ public final class EdgesOfKindsTest {
         Check.due("PLACES are back", x.person(0, 0) * 10 + x.person(4, 0), 4);
     }
 
+    private static void backOfOtherThingsDone() {
+        EchoesFirst x = Edges.after(Edges::full);
+        EchoesFirst y = Edges.after(Edges::full);
+        x.back(0);
+        Check.pass(x, 9);
+        x.moves(5, 1);
+        for (int k = 0; k < 10; k++) {
+            Check.due("makes() another thing", x.makes(5, 0), k + 1);
+        }
+        Check.due("back(1)", x.back(1), 2);
+        for (int i = 0; i < 10; i++) {
+            for (int what = 0; what < 4; what++) {
+                Check.due("done(" + i + ", " + what + ") as kept", x.done(i, what), y.done(i, what));
+            }
+        }
+    }
+
+    private static void backOfOtherMoves() {
+        EchoesFirst x = Check.told("n 4;p 0 0 40 0;p 1 0 40 0;p 2 0 40 0;");
+        x.moves(0, 3);
+        x.moves(2, 1);
+        x.second();
+        x.keep(0);
+        x.back(0);
+        Check.due("undo()", x.undo() + x.undo() + x.undo(), 3);
+        x.second();
+        x.moves(1, 2);
+        x.moves(1, 0);
+        x.moves(1, 3);
+        Check.due("back(0)", x.back(0), 1);
+        Check.due("undo() of a second", x.undo() * 10 + x.count(3), 20);
+        Check.due("undo() of a move of 2", x.undo() * 10 + x.person(2, 0), 12);
+        Check.due("undo() of a move of 0", x.undo() * 10 + x.person(0, 0), 0);
+        Check.due("PLACE of 1 as kept", x.person(1, 0), 1);
+        Check.due("undo() of none", x.undo(), STATE);
+    }
+
     private static void imagesAreGoneWhenReadAnew() {
         for (int image = 0; image < 2; image++) {
             int asked = image;
@@ -307,6 +351,17 @@ public final class EdgesOfKindsTest {
                     x.mark(asked, marked);
                 }, EchoesFirst::trace, LEAVES[kind]);
             }
+        }
+    }
+
+    private static void traceOfAllKindsTogether() {
+        EchoesFirst x = new EchoesFirst();
+        long all = 0;
+        for (int k = 0; k < 36; k++) {
+            int kind = k % 2 == 0 ? k % 6 : k / 6;
+            x.mark(kind, k % 8);
+            all += LEAVES[kind];
+            Check.due("trace() of " + (k + 1) + " marks", x.trace(), all);
         }
     }
 

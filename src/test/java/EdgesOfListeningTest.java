@@ -85,7 +85,8 @@ public final class EdgesOfListeningTest {
     }
 
     private static void beginPlaces() {
-        Edges.numbers("begin(.. place ..) of two", Edges.told("n 2;p 0 0 40 0;"), (x, place) -> x.begin(0, 0, place, 0), 0, 1);
+        Edges.numbers("begin(.. place ..) of two", Edges.told("n 2;p 0 0 40 0;"),
+            (x, place) -> x.begin(0, 0, place, 0), 0, 1);
         Edges.numbers("begin(.. place ..) of three", Edges::some, (x, place) -> x.begin(0, 0, place, 0), 0, 2);
         Edges.numbers("begin(.. place ..) of six", Edges::full, (x, place) -> x.begin(5, 0, place, 40), 0, 5);
     }
@@ -152,13 +153,15 @@ public final class EdgesOfListeningTest {
     }
 
     private static void togetherPlaces() {
-        Edges.numbers("together(.. place ..) of two", Edges.told("n 2;p 0 0 40 0;"), (x, place) -> x.together(0, place, 1), 0, 1);
+        Edges.numbers("together(.. place ..) of two", Edges.told("n 2;p 0 0 40 0;"),
+            (x, place) -> x.together(0, place, 1), 0, 1);
         Edges.numbers("together(.. place ..) of three", Edges::some, (x, place) -> x.together(0, place, 1), 0, 2);
         Edges.numbers("together(.. place ..) of six", Edges::full, (x, place) -> x.together(0, place, 63), 0, 5);
     }
 
     private static void togetherPeople() {
-        Edges.numbers("together(.. people) of one", Edges.told("p 0 0 40 0;"), (x, people) -> x.together(0, 0, people), 1, 1);
+        Edges.numbers("together(.. people) of one", Edges.told("p 0 0 40 0;"), (x, people) -> x.together(0, 0, people),
+            1, 1);
         Edges.numbers("together(.. people) of three", Edges::some, (x, people) -> x.together(0, 0, people), 1, 7);
         Edges.numbers("together(.. people) of six", Edges::full, (x, people) -> x.together(0, 0, people), 1, 63);
         for (int people = -2; people < 3; people++) {
@@ -204,7 +207,8 @@ public final class EdgesOfListeningTest {
     // ---- promise 23
 
     private static void playedRows() {
-        int[] wrong = {-1, -11, LEAST, LEAST + 1, MOST, 1111111, 1000000, 8888888, 11111111, 111111111, 1111111111, 2111111111};
+        int[] wrong = {-1, -11, LEAST, LEAST + 1, MOST, 1111111, 1000000, 8888888, 11111111, 111111111, 1111111111,
+            2111111111};
         for (int row : wrong) {
             Edges.refused("played(" + row + ", ..)", Edges::some, x -> x.played(row, 0, 0), BAD);
         }
@@ -222,7 +226,8 @@ public final class EdgesOfListeningTest {
                 int row = ones + (figure - 1) * unit;
                 boolean isShorter = figure == 0 && place == 5;
                 if (figure >= 1 && figure <= 8 || isShorter) {
-                    Edges.due("played(" + row + ", ..)", Edges.told("p 0 0 40 0 1 2 3 4 5 6 7;"), x -> x.played(row, 0, 0), 1);
+                    Edges.due("played(" + row + ", ..)", Edges.told("p 0 0 40 0 1 2 3 4 5 6 7;"),
+                        x -> x.played(row, 0, 0), 1);
                 } else {
                     Edges.refused("played(" + row + ", ..)", Edges::some, x -> x.played(row, 0, 0), BAD);
                 }
@@ -304,6 +309,8 @@ public final class EdgesOfListeningTest {
         sureIs("", 41);
         sureIs("p 1 0 40 0;", 41);
         sureIs("p 0 0 40 1 2 3 4 5 6 7;", 41);
+        Edges.due("sure(1, 0) of one at PLACE 0", Edges.told("p 0 0 40 0;"), x -> x.sure(1, 0), 41);
+        Edges.due("sure(1, 0) of one at PLACE 2", Edges.told("p 2 0 40 0;"), x -> x.sure(1, 0), 41);
     }
 
     private static void sureFromAndTo() {

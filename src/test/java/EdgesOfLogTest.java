@@ -34,10 +34,12 @@ public final class EdgesOfLogTest {
         fewestIsNotTheGreediest();
         waysOfTheFewestAlone();
         mustOfAllAndOfNone();
+        setsAnewWhenTheLogIsAnother();
         firstNumbers();
         firstOfNoSuchSet();
         firstLeastAndMostNumber();
         firstByRisingNumbers();
+        firstOfSeveralSets();
         oddsOfPeople();
         oddsOfTheLog();
         oddsUpperAndLower();
@@ -203,7 +205,8 @@ public final class EdgesOfLogTest {
     private static void whoOfAllSix() {
         Edges.due("who() of six", logged(SIX_ALIKE, heard(9, 0, 0)), x -> x.who(0), 63);
         Edges.due("who() of nobody", logged("n 2;", heard(9, 0, 0)), x -> x.who(0), 0);
-        Edges.due("who() of the sixth alone", logged(SIX_ALIKE.replaceFirst("0;$", "7;"), heard(9, 0, 7)), x -> x.who(0), 32);
+        Edges.due("who() of the sixth alone", logged(SIX_ALIKE.replaceFirst("0;$", "7;"), heard(9, 0, 7)),
+            x -> x.who(0), 32);
     }
 
     private static void whoIsHeardJustSo() {
@@ -231,12 +234,17 @@ public final class EdgesOfLogTest {
     private static void nobodyOfNone() {
         Edges.due("nobody() with nobody there", Edges.nothing(), EchoesFirst::nobody, NONE);
         Edges.due("nobody() with six there", Edges.told(SIX_ALIKE), EchoesFirst::nobody, NONE);
-        Edges.due("nobody() when all are of somebody", logged(SIX_ALIKE, heard(0, 0, 0), heard(39, 0, 0)), EchoesFirst::nobody, NONE);
+        Edges.due("nobody() of one made in second 0", logged("n 2;f 0 0 0;p 0 0 0 0;", heard(0, 0, 0)),
+            EchoesFirst::nobody, NONE);
+        Edges.due("nobody() when all are of somebody", logged(SIX_ALIKE, heard(0, 0, 0), heard(39, 0, 0)),
+            EchoesFirst::nobody, NONE);
     }
 
     private static void nobodyOfStillOnes() {
-        Edges.due("nobody() of STILL ones alone", logged("", still(0, 0, 0), still(40, 3, 7)), EchoesFirst::nobody, NONE);
-        Edges.due("nobody() behind STILL ones", logged("", still(0, 0, 0), still(9, 3, 7), heard(9, 3, 6)), EchoesFirst::nobody, 2);
+        Edges.due("nobody() of STILL ones alone", logged("", still(0, 0, 0), still(40, 3, 7)), EchoesFirst::nobody,
+            NONE);
+        Edges.due("nobody() behind STILL ones", logged("", still(0, 0, 0), still(9, 3, 7), heard(9, 3, 6)),
+            EchoesFirst::nobody, 2);
     }
 
     private static void nobodyFirstAndLast() {
@@ -292,7 +300,8 @@ public final class EdgesOfLogTest {
     private static void fewestIsNotTheGreediest() {
         setsAre("six at six PLACES", logged("n 6;f0 0 2;f0 1 2;f0 2 2;f0 3 2;f0 4 5;f0 5 6;f1 1 2;f1 4 2;f2 2 2;"
             + "f2 3 2;f2 4 9;f2 5 2;f1 2 3;f1 3 4;f1 5 5;p0 0 40 0;p1 0 40 0;p2 0 40 0;",
-            heard(10, 0, 0), heard(10, 1, 0), heard(10, 2, 0), heard(10, 3, 0), heard(10, 4, 0), heard(10, 5, 0)), 2, 1, 6);
+            heard(10, 0, 0), heard(10, 1, 0), heard(10, 2, 0), heard(10, 3, 0), heard(10, 4, 0), heard(10, 5, 0)), 2,
+            1, 6);
     }
 
     private static void waysOfTheFewestAlone() {
@@ -307,6 +316,22 @@ public final class EdgesOfLogTest {
             heard(0, 0, 0), heard(0, 0, 1), heard(0, 0, 2), heard(0, 0, 3), heard(0, 0, 4), heard(0, 0, 5)), 6, 1, 63);
         setsAre("one SOUND of two", logged("n 2;p0 0 40 0;p0 0 40 0;", heard(0, 0, 0)), 1, 2, 0);
         setsAre("one SOUND of the sixth", logged(SIX_ALIKE.replaceFirst("0;$", "7;"), heard(9, 0, 7)), 1, 1, 32);
+    }
+
+    private static void setsAnewWhenTheLogIsAnother() {
+        EchoesFirst x = Edges.after(logged("p0 0 40 0;p1 0 40 0 1;", heard(9, 0, 0), heard(20, 0, 0)));
+        Check.due("DEEDS of two", x.deeds(0) * 10 + x.deeds(1), 24);
+        x.forget();
+        Check.due("DEEDS of nothing", x.deeds(0) * 10 + x.deeds(1), 1);
+        Check.log(x, 9, 0, 1, 1);
+        Check.due("DEEDS of another one", x.deeds(0) * 10 + x.deeds(1), 11);
+        Check.due("first(0) of another one", x.first(0), 10112);
+        Check.due("MUST of another one", x.deeds(2), 2);
+        Check.due("odds(0, ..) of another one", x.odds(0, 0, 0) * 10 + x.odds(0, 0, 1), 1);
+        Check.log(x, 9, 0, 1, 0);
+        Check.due("no such set any more", x.deeds(0), NONE);
+        x.forget();
+        Check.due("DEEDS of nothing again", x.deeds(0) * 10 + x.deeds(1), 1);
     }
 
     // ---- promise 12
@@ -340,7 +365,8 @@ public final class EdgesOfLogTest {
 
     private static void firstLeastAndMostNumber() {
         Edges.due("the least number", logged("n 2;f 0 0 0;p 0 0 0 0;", heard(0, 0, 0)), x -> x.first(0), 0);
-        Edges.due("the greatest number", logged(SIX_ALIKE.replaceFirst("0;$", "7;"), heard(39, 0, 7)), x -> x.first(0), 50740);
+        Edges.due("the greatest number", logged(SIX_ALIKE.replaceFirst("0;$", "7;"), heard(39, 0, 7)), x -> x.first(0),
+            50740);
     }
 
     private static void firstByRisingNumbers() {
@@ -353,6 +379,18 @@ public final class EdgesOfLogTest {
         Check.due("first(5)", x.first(5), NOT_SO_MANY);
     }
 
+    /** The first number counts ahead of all others; a deed of no set of the fewest does not. */
+    private static void firstOfSeveralSets() {
+        Edges.Script four = logged("p0 0 40 0;p1 0 40 0;p2 0 40 0;p3 0 40 0;p0 0 40 0;p1 0 40 0;",
+            heard(9, 0, 0), heard(9, 1, 0), heard(9, 2, 0), heard(9, 3, 0));
+        Edges.due("first(0) of 23 sets", four, x -> x.first(0), 10);
+        Edges.due("first(1) of 23 sets", four, x -> x.first(1), 12);
+        Edges.due("first(2) of 23 sets", four, x -> x.first(2), NOT_SO_MANY);
+        Edges.Script one = logged("n 3;f 0 1 4;p 0 0 40 0;p 1 0 40 0;p 0 0 40 0;", heard(9, 0, 0), heard(12, 1, 0));
+        Edges.due("first(0) of one set of one", one, x -> x.first(0), 10013);
+        Edges.due("first(1) of one set of one", one, x -> x.first(1), NOT_SO_MANY);
+    }
+
     // ---- promise 13
 
     private static void oddsOfPeople() {
@@ -363,7 +401,8 @@ public final class EdgesOfLogTest {
 
     private static void oddsOfTheLog() {
         Edges.numbers("odds(.. i ..) of one", logged(SIX_ALIKE, heard(0, 0, 0)), (x, i) -> x.odds(0, i, 0), 0, 0);
-        Edges.numbers("odds(.. i ..) of two", logged(SIX_ALIKE, heard(0, 0, 0), heard(9, 0, 0)), (x, i) -> x.odds(5, i, 1), 0, 1);
+        Edges.numbers("odds(.. i ..) of two", logged(SIX_ALIKE, heard(0, 0, 0), heard(9, 0, 0)),
+            (x, i) -> x.odds(5, i, 1), 0, 1);
         Edges.Script stillFirst = logged(SIX_ALIKE, still(9, 0, 0), heard(9, 0, 1), heard(0, 0, 0));
         Edges.refused("odds() of a STILL one, upper", stillFirst, x -> x.odds(0, 0, 0), BAD);
         Edges.refused("odds() of a STILL one, lower", stillFirst, x -> x.odds(5, 0, 1), BAD);

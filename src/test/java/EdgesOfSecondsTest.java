@@ -238,10 +238,13 @@ public final class EdgesOfSecondsTest {
         EchoesFirst x = Check.told("n 3;p 0 0 40 0;p 2 0 40 7;");
         x.second();
         x.makes(1, 7);
+        x.moves(0, 1);
         x.moves(1, 1);
-        Check.due("undo() of MOVED", x.undo(), 2);
+        Check.due("undo() of MOVED", x.undo(), 3);
         Check.due("PLACE as ahead of it", x.person(1, 0), 2);
-        Check.due("PLACE of the other one", x.person(0, 0), 0);
+        Check.due("PLACE of the other one", x.person(0, 0), 1);
+        Check.due("undo() of MOVED again", x.undo(), 2);
+        Check.due("PLACE of the other one as ahead of it", x.person(0, 0), 0);
         Check.due("undo() of DONE", x.undo(), 1);
         Check.due("nothing is DONE", x.count(4), 0);
         Check.due("undo() of a second", x.undo(), 0);

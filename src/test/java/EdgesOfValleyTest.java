@@ -278,7 +278,8 @@ public final class EdgesOfValleyTest {
     private static void everyByteBehindAnItem() {
         for (int c = 0; c < 256; c++) {
             int due = c == 32 ? 1 : c == 'f' || c == 'p' ? -15 : -14;
-            Check.due("valley() with the byte " + c + " behind an ITEM", answerOf(new EchoesFirst(), "n 3;" + (char) c), due);
+            Check.due("valley() with the byte " + c + " behind an ITEM",
+                answerOf(new EchoesFirst(), "n 3;" + (char) c), due);
         }
     }
 
