@@ -143,6 +143,8 @@ public final class EdgesOfLogTest {
         Check.due("count(2)", x.count(2), 0);
         Check.due("DEEDS of nothing", x.deeds(0) * 10 + x.deeds(1), 1);
         Check.due("LIES of nothing", x.now(2), 0);
+        Check.due("nobody() of nothing", x.nobody(), NONE);
+        Check.due("FALL of nothing", x.mark(2, 0), 0);
         for (int k = 1; k <= 8; k++) {
             Check.due("heard() again", x.heard(0, 0, 0, 1), k);
         }
@@ -248,6 +250,10 @@ public final class EdgesOfLogTest {
     }
 
     private static void nobodyFirstAndLast() {
+        Edges.due("nobody() of what is forgotten", x -> {
+            Check.log(x, 0, 0, 0, 1);
+            x.forget();
+        }, EchoesFirst::nobody, NONE);
         Edges.due("nobody() of the first", logged("", heard(0, 0, 0)), EchoesFirst::nobody, 0);
         Edges.due("nobody() of two", logged("", heard(0, 0, 0), heard(1, 0, 0)), EchoesFirst::nobody, 0);
         Edges.due("nobody() of the eighth", logged(SIX_ALIKE, heard(0, 0, 0), heard(1, 0, 0), heard(2, 0, 0),

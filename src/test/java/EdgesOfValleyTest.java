@@ -549,6 +549,11 @@ public final class EdgesOfValleyTest {
         fault("f 0 1;", 5);
         fault("f 0 1 2 3;", 8);
         fault("f 0 1 2 f;", 8);
+        fault("f 0 f 1;", 4);
+        fault("f 0 1 f;", 6);
+        fault("p 0 p 40 1;", 4);
+        fault("p 0 0 p 1;", 6);
+        fault("p 0 0 40 p;", 9);
         fault("p 0;", 3);
         fault("p 0 0;", 5);
         fault("p 0 0 40;", 8);
