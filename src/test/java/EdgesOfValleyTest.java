@@ -554,6 +554,10 @@ public final class EdgesOfValleyTest {
         fault("p 0 p 40 1;", 4);
         fault("p 0 0 p 1;", 6);
         fault("p 0 0 40 p;", 9);
+        fault("p 0 0 7 p;", 8);
+        fault("p 0 0 7 !;", 8);
+        fault("p 0 0 7 00;", 8);
+        fault("n 3 3", 4);
         fault("p 0;", 3);
         fault("p 0 0;", 5);
         fault("p 0 0 40;", 8);
@@ -562,6 +566,12 @@ public final class EdgesOfValleyTest {
     private static void faultAtTheLastByte() {
         fault(" ".repeat(199) + "x", 199);
         fault(" ".repeat(199) + "n", 200);
+        fault(" ".repeat(199) + "7", 199);
+        fault(" ".repeat(198) + "77", 198);
+        fault(" ".repeat(197) + "n 3", 200);
+        fault(" ".repeat(193) + "f 0 1 9", 200);
+        fault(" ".repeat(199) + ";", 199);
+        fault(" ".repeat(199) + (char) 255, 199);
         fault(" ".repeat(198) + "00", 198);
         fault(" ".repeat(196) + "n 3!", 199);
         items(" ".repeat(196) + "n 3;", 1);
