@@ -29,6 +29,7 @@ public final class LanguageTest {
         classesInside();
         text();
         noObjectsBesideConstructors();
+        methodsAreShort();
         Check.end();
     }
 
@@ -103,6 +104,33 @@ public final class LanguageTest {
             Check.isTrue(field + " is a constant if static", !isStatic || Modifier.isFinal(field.getModifiers()));
         }
         Check.isTrue(one + " has at most twenty fields", own <= 20);
+    }
+
+    private static void methodsAreShort() throws IOException {
+        for (Class<?> one : EchoesFirst.class.getDeclaredClasses()) {
+            takeFew(one);
+        }
+        takeFew(EchoesFirst.class);
+        int methods = 0;
+        int first = 0;
+        List<String> lines = Files.readAllLines(SOURCE);
+        for (int k = 0; k < lines.size(); k++) {
+            String line = lines.get(k);
+            if (line.matches(" {4}(?: {4})?(?!(if|for|while|switch|do|else)\\b)\\w.*\\) \\{")) {
+                methods++;
+                first = k;
+            }
+            if (line.matches(" {4}(?: {4})?\\}")) {
+                Check.isTrue("at most sixty lines: " + lines.get(first).trim(), k - first < 60);
+            }
+        }
+        Check.isTrue("methods are found", methods > 90);
+    }
+
+    private static void takeFew(Class<?> one) {
+        for (Method method : one.getDeclaredMethods()) {
+            Check.isTrue(method + " takes at most seven", method.getParameterCount() <= 7);
+        }
     }
 
     private static String withoutComments(String source) {

@@ -14,8 +14,6 @@ import java.util.TreeSet;
 import java.util.regex.Matcher;
 import java.util.regex.Pattern;
 import java.util.stream.Stream;
-import javax.tools.JavaCompiler;
-import javax.tools.ToolProvider;
 
 /**
  * README.md stands at the root, and what it shows is so. Its Java blocks are made one program, which
@@ -86,10 +84,9 @@ public final class ReadmeTest {
             + "public static java.util.List<Long> answers() {\n"
             + "java.util.List<Long> answers = new java.util.ArrayList<>();\n"
             + program + "return answers;\n}\n}\n");
-        JavaCompiler compiler = ToolProvider.getSystemJavaCompiler();
         String known = System.getProperty("java.class.path");
-        int failed = compiler.run(null, System.out, System.out, "-cp", known, "-d", folder.toString(),
-            source.toString());
+        int failed = new ProcessBuilder("javac", "-cp", known, "-d", folder.toString(), source.toString())
+            .inheritIO().start().waitFor();
         Check.due("compiling what README.md shows", failed, 0);
         List<?> answers = List.of();
         if (failed == 0) {
